@@ -29,6 +29,9 @@ public final class CaveLegs {
     /** Added to answers that can be negative, to keep them apart from errors. */
     private static final int VECTOR_SHIFT = 100, COORDINATE_SHIFT = 1000;
 
+    /** The bits of an int; a set has no number beyond them. */
+    private static final int SET_SIZE = 32;
+
     /** The set that holds the entrance alone. */
     private static final int ENTRANCE = 1;
 
@@ -380,7 +383,7 @@ public final class CaveLegs {
     // ---- what the methods share
 
     private static boolean holds(int set, int number) {
-        return number >= 0 && number < Integer.SIZE && (set >> number & 1) != 0;
+        return number >= 0 && number < SET_SIZE && (set >> number & 1) != 0;
     }
 
     private static boolean isGirth(int g) {
@@ -504,8 +507,8 @@ public final class CaveLegs {
 
     private static int factorial(int n) {
         int product = 1;
-        for (int i = 2; i <= n; i++) {
-            product *= i;
+        for (int i = 1; i < n; i++) {
+            product *= i + 1;
         }
         return product;
     }

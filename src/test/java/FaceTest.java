@@ -1,0 +1,99 @@
+import java.lang.reflect.Constructor;
+import java.lang.reflect.Field;
+import java.lang.reflect.Method;
+import java.lang.reflect.Modifier;
+import java.nio.file.Files;
+import java.nio.file.Path;
+import java.util.Arrays;
+import java.util.Set;
+import java.util.TreeSet;
+import java.util.regex.Matcher;
+import java.util.regex.Pattern;
+import java.util.stream.Collectors;
+
+/** The public face of the document, and those rules of LANGUAGE.md that can be looked up. */
+public final class FaceTest {
+    private static final String FACE = """
+        int write(int)
+        int wipe()
+        int fault()
+        int cave()
+        int leg(int, int)
+        int measure(int, int, int, int, int, int)
+        int take(int)
+        int read(int, int, int)
+        int fall(int)
+        int undo()
+        int laid(int, int)
+        int miss(int, int)
+        long evened(int, int, boolean)
+        long rest(int, int, boolean)
+        long squares(boolean)
+        int ask(int)
+        int widest(int, int)
+        int come(int)
+        int must(int)
+        int judge(int, long)
+        int see(int, int, int, int)
+        int unsee()
+        int which()
+        int share(int, boolean)
+        int falls(int, int, int, boolean)
+        long seed(long)
+        int drawn(int)
+        int keep(int)
+        int again(int)
+        int count(int)
+        """;
+
+    private static final Set<String> CONSTANTS = Set.of("UNKNOWN", "OUTSIDE", "STATE", "FULL", "NONE");
+
+    public static void main(String[] args) throws Exception {
+        face();
+        insideClasses();
+        source(Files.readString(Path.of("src/main/java/CaveLegs.java")));
+        Check.end();
+    }
+
+    private static void face() {
+        int modifiers = CaveLegs.class.getModifiers();
+        Check.isTrue("public and final", Modifier.isPublic(modifiers) && Modifier.isFinal(modifiers));
+        Set<String> methods = new TreeSet<>();
+        for (Method m : CaveLegs.class.getDeclaredMethods()) {
+            if (!Modifier.isPrivate(m.getModifiers())) {
+                String types = Arrays.stream(m.getParameterTypes()).map(Class::getName).collect(Collectors.joining(", "));
+                methods.add(m.getReturnType() + " " + m.getName() + "(" + types + ")");
+                Check.isTrue(m + " is public and not static", Modifier.toString(m.getModifiers()).equals("public"));
+            }
+        }
+        Check.isTrue("methods " + methods, methods.equals(new TreeSet<>(FACE.lines().toList())));
+        Constructor<?>[] made = CaveLegs.class.getDeclaredConstructors();
+        Check.isTrue("one public constructor", made.length == 1 && made[0].toString().equals("public CaveLegs()"));
+        for (Field f : CaveLegs.class.getDeclaredFields()) {
+            String wanted = CONSTANTS.contains(f.getName()) ? "public static final" : "private";
+            Check.isTrue(f + " is " + wanted, Modifier.toString(f.getModifiers()).startsWith(wanted));
+            Check.isTrue(f + " is final if static", !Modifier.isStatic(f.getModifiers()) || Modifier.isFinal(f.getModifiers()));
+        }
+    }
+
+    private static void insideClasses() {
+        Set<String> faceNames = FACE.lines().map(l -> l.replaceAll("^\\w+ (\\w+).*", "$1")).collect(Collectors.toSet());
+        Check.isTrue("at most twelve classes", CaveLegs.class.getDeclaredClasses().length < 12);
+        for (Class<?> inside : CaveLegs.class.getDeclaredClasses()) {
+            Check.isTrue(inside + " is static", Modifier.isStatic(inside.getModifiers()));
+            for (Method m : inside.getDeclaredMethods()) {
+                Check.isTrue(m + " has a name of its own", !faceNames.contains(m.getName()));
+            }
+        }
+    }
+
+    private static void source(String text) {
+        String code = text.replaceAll("(?s)/\\*.*?\\*/", "").replaceAll("//[^\n]*", "");
+        Matcher banned = Pattern.compile("\\b(throw|throws|try|catch|synchronized|assert|System|Object|double|float)\\b|->|::|\\w+Exact\\b")
+            .matcher(code);
+        Check.isTrue("no word that the rules leave out" + (banned.find() ? ": " + banned.group() : ""), !banned.reset().find());
+        Check.isTrue("no import but Arrays", code.replace("import java.util.Arrays;", "").indexOf("import") < 0);
+        Check.isTrue("no package line", !Pattern.compile("(?m)^package").matcher(code).find());
+        Check.isTrue("plain signs alone", text.chars().allMatch(c -> c == '\n' || c >= ' ' && c <= '~'));
+    }
+}
