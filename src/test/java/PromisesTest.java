@@ -283,6 +283,11 @@ public final class PromisesTest {
         due("8 none collapsed then", x.count(3), 0);
         due("8 the last", x.take(0), 0);
         due("8 none left", x.take(0), CaveLegs.UNKNOWN);
+        CaveLegs y = Check.caveOf("C3l0111321l1222322l2033323");
+        due("8 the first of three", y.take(0), 2);
+        due("8 its follower's length", y.leg(0, 0), 22);
+        due("8 its follower's width", y.leg(0, 3), 2);
+        due("8 its follower's from", y.leg(0, 4), 1);
     }
 
     private static void p09Read() {
@@ -371,6 +376,9 @@ public final class PromisesTest {
         CaveLegs back = Check.caveOf("C2l1099301");
         due("12 backwards east", back.laid(1, 0), 951);
         due("12 backwards up", back.laid(1, 2), 1086);
+        CaveLegs star = Check.caveOf("C6l0110321l0220021l0330921l0440621l0550321");
+        due("12 a star, station 4", star.laid(4, 1), 960);
+        due("12 a star, station 5", star.laid(5, 0), 1050);
     }
 
     private static void p13Miss() {
@@ -406,6 +414,12 @@ public final class PromisesTest {
         x.fall(2);
         evened(x, 1, 1, -10, 3);
         evened(Check.caveOf(TRIPLE), 1, 0, 11, 1);
+        // a ring of six legs east: it misses by their sum, which is shared by six
+        CaveLegs ring = Check.caveOf("C6l0110321l1210321l2310321l3410321l4510321l5010321");
+        evened(ring, 5, 0, 0, 1);
+        ring.read(5, 0, 15);
+        evened(ring, 5, 0, -25, 6);
+        evened(ring, 3, 0, -5, 2);
         for (int side = 0; side < 2; side++) {
             due("14 station 3", x.evened(3, 0, side == 0), CaveLegs.UNKNOWN);
             due("14 station first", x.evened(-1, 3, side == 0), CaveLegs.UNKNOWN);
@@ -497,6 +511,8 @@ public final class PromisesTest {
         due("18 back", x.widest(2, 0), 3);
         due("18 direct", x.widest(0, 1), 5);
         due("18 no way", x.widest(0, 3), 0);
+        due("18 width 1", Check.caveOf(LOOP).widest(1, 2), 1);
+        due("18 five legs", Check.caveOf("C6l0110329l2110328l2310324l4310327l4510326").widest(5, 0), 4);
         due("18 itself", x.widest(3, 3), 10);
         x.fall(1);
         due("18 collapsed", x.widest(0, 2), 2);
@@ -601,6 +617,9 @@ public final class PromisesTest {
         due("21 cannot be reached", x.judge(1, 7240), CaveLegs.NONE);
         due("21 can be", x.judge(1, 7230), 0);
         due("21 girth 0", x.judge(1, 7200), 0);
+        due("21 girth 0 and v 1", x.judge(1, 7201), 0);
+        due("21 girth 1", x.judge(1, 7211), CaveLegs.NONE);
+        due("21 v 2 where it cannot be reached", x.judge(1, 7242), 0);
         due("21 v of 7", x.judge(1, 7232), 0);
         due("21 no station", x.judge(1, 7510), 0);
         due("21 entrance", x.judge(1, 7091), CaveLegs.NONE);
@@ -618,6 +637,8 @@ public final class PromisesTest {
         due("22 was -1", x.see(0, 1, 0, -1), CaveLegs.OUTSIDE);
         due("22 was 2", x.see(0, 1, 0, 2), CaveLegs.OUTSIDE);
         due("22 errors add none", x.count(5), 0);
+        due("22 least v", x.see(3, 3, 0, 0), 1);
+        x.unsee();
         for (int k = 1; k <= 6; k++) {
             due("22 observation " + k, x.see(0, 0, 10, 1), k);
         }
@@ -662,6 +683,13 @@ public final class PromisesTest {
         Check.write(x, WIDTHS);
         x.cave();
         due("24 station 3 is back", x.which(), 0);
+        CaveLegs narrow = Check.caveOf("C3l0110321l0210322");
+        for (int k = 0; k < 5; k++) {
+            narrow.see(0, 0, 10, 1);
+        }
+        due("24 a leg of width 1", narrow.which(), 3);
+        narrow.see(0, 1, 0, 0);
+        due("24 the sixth counts too", narrow.which(), 2);
     }
 
     private static void share(CaveLegs x, int leg, int top, int bottom) {
