@@ -38,8 +38,10 @@ public final class EdgesOfChancesTest {
         theLegIsDrawnByR();
         collapsedLegsAreDrawnButNotWalked();
         legsElsewhereAreNotWalked();
+        drawnChangesTheSeedAlone();
         countWhatIsFrom0To5();
         countsAtTheirGreatest();
+        questionsChangeNothing();
         Check.end();
     }
 
@@ -350,6 +352,15 @@ public final class EdgesOfChancesTest {
         due("28 any open leg does", narrow.drawn(1), 1);
     }
 
+    private static void drawnChangesTheSeedAlone() {
+        Refused.everywhere("28 drawn, and the seed as before", 0, (x, w) -> {
+            long seed = x.seed(5);
+            x.drawn(40);
+            due("28 the seed after forty", x.seed(seed), after(5, 40));
+            return 0;
+        });
+    }
+
     // ---- promise 31
 
     private static void countWhatIsFrom0To5() {
@@ -370,5 +381,29 @@ public final class EdgesOfChancesTest {
         for (int what = 0; what <= 5; what++) {
             due("31 count " + what, x.count(what), due[what]);
         }
+    }
+
+    /** Not a refused call, but it is looked at in the same way. */
+    private static void questionsChangeNothing() {
+        Refused.everywhere("questions", 0, (x, w) -> {
+            x.fault();
+            x.leg(0, 9);
+            x.laid(1, 0);
+            x.miss(0, 1);
+            x.evened(1, 2, true);
+            x.rest(0, 0, false);
+            x.squares(true);
+            for (int what = 0; what <= 3; what++) {
+                x.ask(what);
+            }
+            x.widest(0, 1);
+            x.come(3);
+            x.must(1);
+            x.which();
+            x.share(0, true);
+            x.falls(1, 1, 5, false);
+            x.count(4);
+            return 0;
+        });
     }
 }

@@ -422,6 +422,9 @@ public final class EdgesOfPassagesTest {
         fallen.fall(1);
         item(fallen, 6100, true);
         item(Check.caveOf("C3l1210321"), 6000, false);
+        // the vector of a leg of 1 straight down is 0, but if it is not connected, it has no misclosure
+        item(Check.caveOf("C3l1201301"), 6000, false);
+        item(Check.caveOf("C3l1201301l0101301"), 6000, true);
         item(Check.caveOf("C2" + LEG.repeat(8)), 6700, true);
         item(Check.caveOf("C2" + LEG.repeat(8)), 6800, false);
     }

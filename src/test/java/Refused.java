@@ -28,7 +28,7 @@ final class Refused {
     private static final List<Tail> TAILS = List.of(
         Refused::asked, Refused::chances, Refused::undone, Refused::kept, Refused::written, Refused::seen, Refused::acted);
 
-    private static final int MOST_CALLS_OF_A_TAIL = 380;
+    private static final int MOST_CALLS_OF_A_TAIL = 300;
 
     private static final Map<String, List<String>> UNTOUCHED = new HashMap<>();
 
