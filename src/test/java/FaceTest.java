@@ -49,10 +49,32 @@ public final class FaceTest {
     private static final Set<String> CONSTANTS = Set.of("UNKNOWN", "OUTSIDE", "STATE", "FULL", "NONE");
 
     public static void main(String[] args) throws Exception {
+        documentsFace(Files.readString(Path.of("../shared/DOC.md")));
         face();
         insideClasses();
         source(Files.readString(Path.of("src/main/java/CaveLegs.java")));
         Check.end();
+    }
+
+    /** The lists above are those of the document, so that the class is held to it. */
+    private static void documentsFace(String document) throws ReflectiveOperationException {
+        Matcher method = Pattern.compile("(?m)^    public (int|long) (\\w+)\\(([^)]*)\\);").matcher(document);
+        Set<String> methods = new TreeSet<>();
+        while (method.find()) {
+            String types = method.group(3).replaceAll("(\\w+) \\w+", "$1");
+            methods.add(method.group(1) + " " + method.group(2) + "(" + types + ")");
+        }
+        Check.isTrue("methods of the document " + methods, methods.equals(new TreeSet<>(FACE.lines().toList())));
+        Matcher constants = Pattern.compile("public static final int ([^;]+);").matcher(document);
+        Set<String> names = new TreeSet<>();
+        while (constants.find()) {
+            for (String constant : constants.group(1).split(", ")) {
+                String[] parts = constant.split(" = ");
+                names.add(parts[0]);
+                Check.due(parts[0], CaveLegs.class.getField(parts[0]).getInt(null), Integer.parseInt(parts[1]));
+            }
+        }
+        Check.isTrue("constants of the document " + names, names.equals(CONSTANTS));
     }
 
     private static void face() {
